@@ -195,7 +195,7 @@ public final class PatchGraphs {
         for (int i = 0; i < count; i++) {
             for (int j = i + 1; j < count; j++) {
                 // Lines that lead to each other are in conflict, so that needs no test here.
-                if (leadsTo(text[i], text[j]) && leadsTo(text[j], text[i])) {
+                if (leadToEachOther(text[i], text[j])) {
                     pairs++;
                 }
             }
@@ -345,12 +345,12 @@ public final class PatchGraphs {
         return true;
     }
 
-    private boolean leadsTo(int a, int b) {
-        return isIn(b, ledTo[a]);
+    private boolean isBefore(int a, int b) {
+        return isIn(b, ledTo[a]) && !isIn(a, ledTo[b]);
     }
 
-    private boolean isBefore(int a, int b) {
-        return leadsTo(a, b) && !leadsTo(b, a);
+    private boolean leadToEachOther(int a, int b) {
+        return isIn(b, ledTo[a]) && isIn(a, ledTo[b]);
     }
 
     /** Sets ledTo for store s. Struck lines stay in: a way may go through them. */
@@ -358,7 +358,7 @@ public final class PatchGraphs {
         findSteps(s);
         for (int middle = 0; middle < madeCount; middle++) {
             for (int a = 0; a < madeCount; a++) {
-                if (leadsTo(a, middle)) {
+                if (isIn(middle, ledTo[a])) {
                     ledTo[a] |= ledTo[middle];
                 }
             }

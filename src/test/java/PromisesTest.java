@@ -670,6 +670,17 @@ public final class PromisesTest {
         due("put(1, 2, 0)", x.put(1, 2, 0), 6);
         due("alike(0, 1)", x.alike(0, 1), false);
         due("alike(1, 0)", x.alike(1, 0), false);
+        // One content differs, at the first place and then at the last.
+        due("put(2, 0, 4)", x.put(2, 0, 4), 7);
+        due("put(2, 1, 6)", x.put(2, 1, 6), 8);
+        due("alike(0, 2)", x.alike(0, 2), false);
+        due("drop(2, 8)", x.drop(2, 8), 1);
+        due("drop(2, 7)", x.drop(2, 7), 0);
+        due("put(2, 0, 5)", x.put(2, 0, 5), 9);
+        due("put(2, 1, 4)", x.put(2, 1, 4), 10);
+        due("alike(0, 2)", x.alike(0, 2), false);
+        due("drop(2, 10)", x.drop(2, 10), 1);
+        due("drop(2, 9)", x.drop(2, 9), 0);
         x.strike(0, 0);
         x.strike(0, 0);
         due("alike(0, 2)", x.alike(0, 2), true);
